@@ -14,9 +14,10 @@ public final class ModelTest {
     private static int wrong = 0;
     private static int settles, spents, undos, goodTexts;
     private static final int[] faults = new int[6];
+    private static final int[] whys = new int[7];
 
     public static void main(String[] args) {
-        int runs = args.length > 0 ? Integer.parseInt(args[0]) : 3000;
+        int runs = args.length > 0 ? Integer.parseInt(args[0]) : 1500;
         for (int seed = 0; seed < runs && wrong < 20; seed++) {
             new Run(seed).go();
         }
@@ -24,8 +25,12 @@ public final class ModelTest {
             textsOnly(seed);
         }
         System.out.println("deaths " + settles + ", spent " + spents + ", undone " + undos + ", laws " + goodTexts
-            + ", faults " + Arrays.toString(faults));
+            + ", faults " + Arrays.toString(faults) + ", whys " + Arrays.toString(whys));
+        // A change of the random texts must not make the runs thin unseen.
         boolean thin = settles < 100 || spents < 20 || undos < 20 || goodTexts < 100;
+        for (int why : whys) {
+            thin |= why < 50;
+        }
         for (int fault = 1; fault <= 5; fault++) {
             thin |= faults[fault] < 20;
         }
@@ -923,6 +928,7 @@ public final class ModelTest {
                 } else {
                     e.why[x] = 4;
                 }
+                whys[e.why[x]]++;
             }
         }
 
@@ -1242,7 +1248,7 @@ public final class ModelTest {
         }
 
         void go() {
-            int calls = 30 + random.nextInt(60);
+            int calls = random.nextInt(4) == 0 ? 200 : 30 + random.nextInt(60);
             tellLaw();
             for (int i = 0; i < calls && wrong < 20; i++) {
                 act();
@@ -1251,12 +1257,19 @@ public final class ModelTest {
         }
 
         void tellLaw() {
-            Texts texts = new Texts(random);
-            String s = texts.make(4 + random.nextInt(16));
-            if (random.nextInt(6) == 0) {
-                s = texts.spoil(s);
+            String s = "";
+            for (int tries = 0; tries < 8; tries++) {
+                Texts texts = new Texts(random);
+                s = texts.make(4 + random.nextInt(16));
+                if (random.nextInt(9) == 0) {
+                    s = texts.spoil(s);
+                }
+                s = s.length() > 2000 ? s.substring(0, 2000) : s;
+                if (random.nextInt(9) == 0 || new Reading(s).fault[0] == 0) {
+                    break;
+                }
             }
-            feed(x, m, s.length() > 2000 ? s.substring(0, 2000) : s);
+            feed(x, m, s);
             same(seed, "read " + s, x.read(), m.read());
             same(seed, "place " + s, x.place(), m.place);
         }
