@@ -726,11 +726,10 @@ public final class EstateOffice {
                 return fail(ROOM);
             }
             if (kind == Text.NAME) {
-                if (!takeTold()) {
-                    return false;
-                }
+                findTold();
                 row = Kinship.rowOfKin(found);
-            } else if (!take(kind)) {
+            }
+            if (!take(kind)) {
                 return false;
             }
             int sex = NONE;
@@ -744,13 +743,17 @@ public final class EstateOffice {
             return true;
         }
 
-        /** Takes the NAME of a KIN told ahead: its number is in found (NONE if there is none). */
+        /** The NAME that is next is of a KIN told ahead: its number comes to found (NONE without). */
+        private void findTold() {
+            found = kinNamed(value);
+            if (found == NONE) {
+                note(UNKNOWN, next);
+            }
+        }
+
         private boolean takeTold() {
             if (kind == Text.NAME) {
-                found = kinNamed(value);
-                if (found == NONE) {
-                    note(UNKNOWN, next);
-                }
+                findTold();
             }
             return take(Text.NAME);
         }

@@ -8,6 +8,7 @@ public final class PromisesTest {
         tokens();
         syntax();
         room();
+        anyTokenIsTooMany();
         twiceUnknownWrong();
         placeAndLaw();
         person();
@@ -206,6 +207,14 @@ public final class PromisesTest {
         fault("kin a=child;rest a 1a 2;", 1, 20);
         fault("kin a=child;rest a1;", 1, 19);
         fault("kin a=child+;", 1, 11);
+        // Of all bytes but blanks, only a .. z open a NAME.
+        for (char sign = 0; sign < 256; sign++) {
+            if (sign != ' ' && sign != '\t' && sign != '\n' && sign != '\r') {
+                boolean isName = sign >= 'a' && sign <= 'z';
+                fault("kin " + sign + "=child;", isName ? 0 : 1, isName ? -1 : 4);
+                fault("kin a=" + sign + ";", isName ? 4 : 1, 6);
+            }
+        }
         fault("will 1/2;will 0/5;", 0, -1);
         for (String word : new String[] {"kin", "fixed", "each", "if", "not", "bars", "rest", "back", "steps", "will",
             "child", "mother", "father", "mate"}) {
@@ -298,6 +307,32 @@ public final class PromisesTest {
         fault(full + " kin #", 2, full.length() + 1);
         // ROOM goes ahead of a fault of 3 to 5 that stands ahead of it.
         fault("steps z;" + "kin a=" + eight + ".child;", 2, 8 + 6 + 48);
+    }
+
+    /** Whole tells of that many TOKENS (12 or more): two KINS, a and b. */
+    private static String filler(int tokens) {
+        return "kin a=child;kin b=a" + (tokens % 2 == 0 ? "" : " m") + times("|a", (tokens - 10) / 2) + "; ";
+    }
+
+    /** Whatever TOKEN is the 601st, it has no ROOM; the text ahead of it has 600. */
+    private static void anyTokenIsTooMany() {
+        String[] tells = {"kin c = a m | b . child f ;", "fixed a 1 / 2 each if a not a ;", "bars a b ;",
+            "rest a 1 , b 2 ;", "back a , b ;", "steps a ;", "will 1 / 2 ;"};
+        for (String tell : tells) {
+            String[] tokens = tell.split(" ");
+            for (int ahead = 0; ahead < tokens.length; ahead++) {
+                String text = filler(600 - ahead);
+                int place = text.length();
+                for (int i = 0; i < ahead; i++) {
+                    place += tokens[i].length() + 1;
+                }
+                fault(text + tell, 2, place);
+            }
+            String whole = filler(600 - tokens.length) + tell;
+            fault(whole, 0, -1);
+            // Of one place the least: what is no TOKEN is none too many.
+            fault(whole + "!", 1, whole.length());
+        }
     }
 
     // ---- 4: 3 TWICE, 4 NAME, 5 WRONG ----
@@ -1063,6 +1098,15 @@ public final class PromisesTest {
         due("by its father's line to its own child", partsOf(z, 2), 1, 1);
         due("by a line", z.why(2), 5);
         due("its father", z.why(0), 3);
+        // A dead father without anyone that lives is no head.
+        EstateOffice v = lawful("kin f=father;steps f;rest f 1;");
+        v.person(0, -1, -1, 0);
+        v.person(0, -1, 0, 20);
+        v.dies(0);
+        v.settle(50);
+        due("would", v.would(1, 50), 0);
+        due("no line, no head", v.why(0), 0);
+        due("the crown", figures(v, 8, 9), 1, 1);
     }
 
     // ---- IV ----
@@ -1252,6 +1296,11 @@ public final class PromisesTest {
         EstateOffice x = rich(1);
         due("an upper part of 10^12", x.settle(2), 1);
         due("wealth", worth(x, 13), 1000000000000L, 999999);
+        x.person(0, -1, -1, 0);
+        x.leaves(13, 14, 1, 1);
+        x.dies(13);
+        due("all of it", x.settle(2), 1);
+        due("wealth", worth(x, 14), 1000000000000L, 999999);
         x = rich(2);
         due("an upper part of 10^12 + 1", x.settle(2), -2);
         due("would so", x.would(12, 2), -2);
