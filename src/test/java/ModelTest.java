@@ -35,7 +35,7 @@ public final class ModelTest {
             thin |= faults[fault] < 20;
         }
         System.out.println(wrong == 0 ? "as the model answers" : wrong + " answers are not the model's");
-        if (wrong != 0 || thin) {
+        if (wrong != 0 || thin && runs >= 1500) {
             System.exit(1);
         }
     }
@@ -1070,7 +1070,7 @@ public final class ModelTest {
         String fresh() {
             String[] some = {"a", "b", "c", "d", "m", "f", "kid", "kin2", "heir", "abcdefghij", "if1", "e9"};
             String name = some[random.nextInt(some.length)];
-            return random.nextInt(60) == 0 ? name : told.contains(name) ? "k" + told.size() : name;
+            return random.nextInt(40) == 0 ? name : told.contains(name) ? "k" + told.size() : name;
         }
 
         String name() {
@@ -1114,7 +1114,7 @@ public final class ModelTest {
             List<String> mine = new ArrayList<>();
             for (int i = 0; i < names; i++) {
                 String name = name();
-                if (mine.contains(name) && random.nextInt(20) > 0) {
+                if (mine.contains(name) && random.nextInt(6) > 0) {
                     continue;
                 }
                 text.append(mine.isEmpty() ? "" : ", ").append(name);
