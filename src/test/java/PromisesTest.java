@@ -36,6 +36,7 @@ public final class PromisesTest {
         spent();
         spentOnTheWay();
         spentAtTheBounds();
+        spentByDebts();
         told();
         outside();
         count();
@@ -1303,9 +1304,67 @@ public final class PromisesTest {
         due("wealth", worth(x, 14), 1000000000000L, 999999);
         x = rich(2);
         due("an upper part of 10^12 + 1", x.settle(2), -2);
+        due("would of another", x.would(13, 2), 0);
         due("would so", x.would(12, 2), -2);
+        due("the other is at hand", x.estate(10), 13);
         due("wealth stays", worth(x, 13), 1000001, 1);
         due("and lives", x.told(12, 4), -1);
+    }
+
+    /** Persons 3, 4, 5 have 1/997, 1/991, 1/3 in the end. */
+    private static EstateOffice thirds() {
+        EstateOffice x = lawful("will 1/1;");
+        int[] below = {997, 991, 3};
+        for (int p = 0; p < 7; p++) {
+            x.person(0, -1, -1, 0);
+        }
+        for (int p = 0; p < 3; p++) {
+            x.wealth(p, 1);
+            x.leaves(p, 3 + p, 1, below[p]);
+            x.dies(p);
+        }
+        // The crown would have too much already: it gets all but 1/997 of 1, and so on.
+        due("spent by the crown", x.settle(1), -2);
+        for (int p = 0; p < 3; p++) {
+            x.leaves(p, 6, below[p] - 1, below[p]);
+        }
+        due("spent by the wealth of one", x.settle(1), -2);
+        return x;
+    }
+
+    private static void spentByDebts() {
+        thirds();
+        EstateOffice x = lawful("will 1/1;");
+        int[] below = {997, 991, 3};
+        for (int p = 0; p < 9; p++) {
+            x.person(0, -1, -1, 0);
+        }
+        for (int p = 0; p < 3; p++) {
+            x.wealth(p, 1);
+            x.leaves(p, 3 + p, 1, below[p]);
+            x.leaves(p, 6 + p, below[p] - 1, below[p]);
+            x.dies(p);
+        }
+        due("each to another", x.settle(1), 3);
+        due("the third", worth(x, 8), 2, 3);
+        x.owes(3, 5, 1);
+        x.owes(4, 5, 1);
+        x.dies(3);
+        due("would", x.would(4, 1), 0);
+        due("paid as far as it goes", new long[] {x.got(5, 4), x.got(5, 5)}, 1, 991);
+        due("settled", x.settle(1), 1);
+        due("1/3 and 1/997", worth(x, 5), 1000, 2991);
+        due("and 1/991 is too much", x.would(4, 1), -2);
+        due("stays", x.estate(10), 4);
+        x.undo();
+        x.owes(5, -1, 1);
+        x.owes(6, -1, 1);
+        x.owes(7, -1, 1);
+        x.dies(5);
+        x.dies(7);
+        due("estates of 3, 5, 7", x.settle(1), 3);
+        due("strangers", new long[] {x.outside(0, 0), x.outside(0, 1)}, 3961, 2973);
+        due("what is 996/997 more is too much", x.would(6, 1), -2);
     }
 
     // ---- 21 ----
