@@ -458,7 +458,9 @@ public final class PromisesTest {
         due("day 11, the other", x.kin(0, 1, 11, 0), 0);
         due("day 20", x.kin(0, 0, 20, 0), 1);
         due("day 21", x.kin(0, 0, 21, 0), -1);
+        due("none on the day", x.kin(0, 0, 60, 0), -1);
         due("for ever", x.mates(2, 0, 0, -1), true);
+        due("at once", x.kin(0, 0, 60, 0), 2);
         due("not born", x.kin(0, 0, 54, 0), -1);
         due("born", x.kin(0, 0, 55, 0), 2);
         due("for ever", x.kin(0, 0, 100000, 0), 2);
@@ -1258,6 +1260,12 @@ public final class PromisesTest {
         z.leaves(0, 1, 1, 991);
         z.leaves(0, 1, 1, 2);
         due("on the way", z.would(0, 1), -2);
+        // P / S: S is 1972078/988027, P / S would have 1972078 below.
+        x = family("fixed c 1/2;fixed d 1/2;");
+        due("would", x.would(2, 60), 0);
+        law(x, "kin fa=father;kin mo=mother;fixed fa 995/997;fixed mo 989/991;");
+        due("a lessened P", x.would(2, 60), -2);
+        due("stays", x.estate(6), 1);
         EstateOffice u = lawful("will 1/1;");
         u.person(0, -1, -1, 0);
         u.person(0, -1, -1, 0);
