@@ -17,6 +17,8 @@ public final class KinEdgesTest {
         barredByAnother();
         barredSecondKin();
         barsOfHeadsAlone();
+        barredPersonZero();
+        nothingOfOlderEstates();
         fixedForHeads();
         fixedCounts();
         ifAndNot();
@@ -393,6 +395,43 @@ public final class KinEdgesTest {
         Edges.law(x, law + "steps c;");
         x.would(1, 52);
         Edges.due("by STEPS it does", Edges.whys(x, 2, 3), 1, 4);
+    }
+
+    private static void barredPersonZero() {
+        EstateOffice x = children(2, 0, "kin f=father;kin c=child;kin b=f.child;bars b f;bars c b;rest f 1;rest b 1;");
+        x.person(1, -1, 1, 30);
+        x.would(1, 20);
+        Edges.due("the father by a brother", Edges.whys(x, 0, 1, 2, 3), 1, 6, 3, 0);
+        due("by the first RULE", x.rule(0), 0);
+        x.would(1, 30);
+        Edges.due("and the brother by a child", Edges.whys(x, 0, 1, 2, 3), 1, 6, 1, 4);
+        due("by the second", x.rule(2), 1);
+        x.would(1, 1);
+        Edges.due("no brother yet", Edges.whys(x, 0, 1, 2), 3, 6, 0);
+    }
+
+    private static void nothingOfOlderEstates() {
+        // What an ESTATE said of a PERSON is not said of it in the next one.
+        EstateOffice x = children(2, 1, "kin c=child;kin f=father;kin b=f.child;rest c 1,f 1;");
+        x.would(0, 9);
+        Edges.due("by a rest", Edges.whys(x, 0, 1, 2), 6, 3, 3);
+        Edges.law(x, "kin c=child;kin f=father;kin b=f.child;fixed f 1/2;fixed c 1/2;");
+        x.would(1, 9);
+        Edges.due("the father by a fixed, the sister a HEAD of b", Edges.whys(x, 0, 1, 2), 2, 6, 4);
+        Edges.law(x, "kin c=child;");
+        x.would(0, 9);
+        Edges.due("HEADS of c with nothing", Edges.whys(x, 0, 1, 2), 6, 4, 4);
+        Edges.due("nor a RULE", new long[] {x.rule(0), x.rule(1), x.rule(2), x.estate(12), x.estate(6)}, -1, -1, -1, -1, 0);
+        shares("nor a part", x, of(0, 1, 2), 0, 1, 0, 1, 0, 1);
+        Edges.law(x, "kin c=child;kin f=father;kin b=f.child;bars f b;rest f 1;");
+        x.would(1, 9);
+        Edges.due("BARRED by the father", Edges.whys(x, 0, 1, 2), 3, 6, 1);
+        x.would(0, 9);
+        Edges.due("not here", Edges.whys(x, 0, 1, 2), 6, 4, 4);
+        due("the crown", x.estate(8), 1);
+        Edges.law(x, "kin f=father;");
+        x.would(1, 9);
+        Edges.due("without a RULE", Edges.whys(x, 0, 1, 2), 4, 6, 0);
     }
 
     // ---- (1) ----

@@ -13,6 +13,7 @@ public final class TextEdgesTest {
         bytesOfTokens();
         blanks();
         lengthsOfTokens();
+        namesThatDiffer();
         longestTokens();
         wordsAreNoNames();
         namesOfEndsAreNames();
@@ -33,6 +34,7 @@ public final class TextEdgesTest {
         faultsOfMeaningByPlace();
         faultsChangeNothing();
         elseItIsTheLaw();
+        nothingOfOlderLaws();
         rulesAreNumbered();
         Edges.end("what the texts' edges ask");
     }
@@ -127,6 +129,22 @@ public final class TextEdgesTest {
         fault("kin a=children;", 4, 6);
         fault("kin a=grandchild;", 4, 6);
         fault("kin a=grandchildr;", 1, 6);
+    }
+
+    private static void namesThatDiffer() {
+        String signs = "abcdefghijklmnopqrstuvwxyz0123456789";
+        for (char told : signs.toCharArray()) {
+            EstateOffice x = new EstateOffice();
+            for (char asked : signs.toCharArray()) {
+                Edges.tape(x, "kin a" + told + "=child;steps a" + asked + ";");
+                Edges.due("a" + asked + " where a" + told + " is told", x.read(), told == asked ? 0 : 4);
+                Edges.tape(x, "kin b" + told + "=child;steps " + asked + ";");
+                Edges.due(asked + " where b" + told + " is told", x.read(), asked > '9' ? 4 : 1);
+            }
+        }
+        fault("kin abcd=child;steps abdc;", 4, 21);
+        fault("kin a1=child;steps b;", 4, 19);
+        fault("kin aaaaaaaaaa=child;steps aaaaaaaaa;", 4, 27);
     }
 
     private static void longestTokens() {
@@ -608,6 +626,36 @@ public final class TextEdgesTest {
         Edges.law(x, "will 1/4;will 0/4;");
         x.would(1, 70);
         Edges.due("none", Edges.figures(x, 2, 3), 0, 1);
+    }
+
+    private static void nothingOfOlderLaws() {
+        // Neither of the law of just before nor of the one ahead of that.
+        String full = "kin a=mate;kin c=child;kin d=child f;bars d c;fixed c 1/2 each if c not a;steps c;steps a;rest c 9,d 7;"
+            + "back d;will 1/1;";
+        EstateOffice x = new EstateOffice();
+        x.person(0, -1, -1, 0);
+        x.person(0, -1, 0, 1);
+        x.person(1, -1, 1, 2);
+        x.wealth(0, 12);
+        x.leaves(0, 2, 1, 3);
+        x.dies(1);
+        x.settle(5);
+        for (int between = 0; between < 3; between++) {
+            Edges.law(x, full);
+            x.would(0, 5);
+            Edges.due("the full law", new long[] {x.estate(2), x.why(1), x.estate(6)}, 4, 2, 1);
+            for (int i = 0; i < between; i++) {
+                Edges.law(x, i == 0 ? "" : "kin z=father;");
+            }
+            Edges.law(x, "kin e=child.child;kin c=child;rest c 1;");
+            x.would(0, 5);
+            Edges.due("no will, no steps, no fixed", new long[] {x.estate(2), x.estate(4), x.why(1), x.why(2), x.estate(6),
+                x.estate(8), x.estate(12)}, 0, 12, 0, 4, 0, 1, -1);
+            Edges.due("its own KIN", new long[] {x.kin(0, 0, 5, 0), x.kin(1, 0, 5, 0), x.kin(2, 0, 5, 0)}, 2, 1, -1);
+            Edges.law(x, "kin c=child.child;fixed c 1/4;");
+            x.would(0, 5);
+            Edges.due("not each, no if, no not", new long[] {x.estate(6), x.estate(7), x.why(2), x.estate(8)}, 1, 4, 2, 3);
+        }
     }
 
     private static void rulesAreNumbered() {
