@@ -1241,11 +1241,13 @@ public final class EstateOffice {
         }
 
         private int stepFrom(int row, int set) {
+            if (row < 0 || row >= ROWS) {
+                return 0;
+            }
+            int[] leadsTo = leads[row];
             int to = 0;
-            for (int x = 0; x < people.size && x < MOST_PERSONS; x++) {
-                if (holds(set, x)) {
-                    to |= reach(row, x);
-                }
+            for (int x = 0; x < MOST_PERSONS && set >> x != 0; x++) {
+                to |= (set >> x & 1) != 0 ? leadsTo[x] : 0;
             }
             return to;
         }

@@ -96,6 +96,12 @@ public final class CallEdgesTest {
         due("day 0 is the last of a death", x.would(0, -1), -1);
         due("it is no fault to die on it", x.would(0, 0), 0);
         due("the empty law has no part for anyone", x.estate(9), 1);
+        // Nor has it a will: its BOUND is 0.
+        x.person(0, -1, -1, 0);
+        x.wealth(0, 12);
+        due("a legacy", x.leaves(0, 1, 1, 2), true);
+        due("would", x.would(0, 0), 0);
+        Edges.due("nothing of it", new long[] {x.estate(2), x.got(1, 2), x.estate(4), x.estate(8)}, 0, 0, 12, 1);
         // Objects have nothing in common.
         EstateOffice y = new EstateOffice();
         due("no persons", y.count(0), 0);

@@ -2,6 +2,7 @@
 public final class KinEdgesTest {
     public static void main(String[] args) {
         bornByTheDay();
+        onDayZero();
         eachStepToTheBorn();
         matesOnTheDayAhead();
         livingOrDead();
@@ -29,6 +30,7 @@ public final class KinEdgesTest {
         weightsOfHeads();
         firstBack();
         backInMeasure();
+        backToPersonZero();
         crown();
         partsOfLines();
         whysAndRules();
@@ -89,6 +91,22 @@ public final class KinEdgesTest {
         Edges.due("two STEPS: the day", Edges.kinOf(x, 5, 0, 70), 4);
         Edges.due("unknown parents", new long[] {x.kin(1, 0, 90, 0), x.kin(2, 0, 90, 0), x.kin(1, 4, 90, 0),
             x.kin(2, 4, 90, 0)}, -1, -1, 3, 2);
+    }
+
+    private static void onDayZero() {
+        // Each question of day 0 sees what was told just ahead of it.
+        EstateOffice x = Edges.lawful("kin o=mother;kin f=father;kin a=mate;kin c=child;");
+        x.person(1, -1, -1, 0);
+        x.person(0, -1, -1, 0);
+        Edges.due("of one without parents", new long[] {x.kin(0, 1, 0, 0), x.kin(1, 1, 0, 0)}, -1, -1);
+        x.person(0, 0, 1, 5);
+        Edges.due("parents born on it", new long[] {x.kin(0, 2, 0, 0), x.kin(1, 2, 0, 0)}, 0, 1);
+        Edges.due("the child is not", new long[] {x.kin(3, 0, 0, 0), x.kin(3, 0, 5, 0)}, -1, 2);
+        x.mates(0, 1, 0, -1);
+        Edges.due("the day ahead is none for MATES", new long[] {x.kin(2, 0, 0, 0), x.kin(2, 0, 1, 0)}, -1, 1);
+        x.kin(0, 2, 0, 0);
+        Edges.law(x, "kin f=father;");
+        Edges.due("by the new law", new long[] {x.kin(0, 2, 0, 0), x.kin(1, 2, 0, 0)}, 1, -1);
     }
 
     private static void eachStepToTheBorn() {
@@ -629,6 +647,19 @@ public final class KinEdgesTest {
         die(x, 50, 1);
         x.would(0, 50);
         shares("by lines", x, of(1, 2, 3, 4), 0, 1, 1, 2, 1, 4, 1, 4);
+    }
+
+    private static void backToPersonZero() {
+        EstateOffice x = children(2, 1, "kin f=father;kin s=f.child;fixed f 1/8;fixed s 3/8;back f;");
+        x.wealth(1, 80);
+        x.would(1, 9);
+        shares("all to the father", x, of(0, 1, 2), 5, 8, 0, 1, 3, 8);
+        due("by the RULE", x.estate(12), 2);
+        Edges.law(x, "kin f=father;kin s=f.child;fixed f 1/8;fixed s 3/8;back s,f;");
+        x.would(1, 9);
+        shares("in measure", x, of(0, 1, 2), 1, 4, 0, 1, 3, 4);
+        die(x, 9, 1);
+        Edges.due("amounts", new long[] {x.told(0, 6), x.told(1, 6), x.told(2, 6), x.outside(1, 0)}, 20, 0, 60, 0);
     }
 
     private static void crown() {

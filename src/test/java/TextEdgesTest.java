@@ -142,6 +142,19 @@ public final class TextEdgesTest {
                 Edges.due(asked + " where b" + told + " is told", x.read(), asked > '9' ? 4 : 1);
             }
         }
+        for (String told : new String[] {"a0", "a9", "dl", "z9", "zz"}) {
+            for (char first = 'a'; first <= 'z'; first++) {
+                EstateOffice x = new EstateOffice();
+                for (char second : signs.toCharArray()) {
+                    String asked = new StringBuilder().append(first).append(second).toString();
+                    // No word of the language has two letters but 'if'.
+                    if (!asked.equals("if")) {
+                        Edges.tape(x, "kin " + told + "=child;steps " + asked + ";");
+                        Edges.due(asked + " where " + told + " is told", x.read(), told.equals(asked) ? 0 : 4);
+                    }
+                }
+            }
+        }
         fault("kin abcd=child;steps abdc;", 4, 21);
         fault("kin a1=child;steps b;", 4, 19);
         fault("kin aaaaaaaaaa=child;steps aaaaaaaaa;", 4, 27);
