@@ -33,6 +33,7 @@ public final class EstateEdgesTest {
         spentByWealth();
         spentByStrangers();
         spentByTheCrown();
+        spentStaysSo();
         spentIsNothing();
         Edges.end("what the edges of the estates ask");
     }
@@ -629,6 +630,46 @@ public final class EstateEdgesTest {
             x.undo();
             due("taken back", x.outside(1, 1), 1001);
         }
+    }
+
+    private static void spentStaysSo() {
+        // Whatever comes behind it or is added to it.
+        for (int below = 1; below <= 12; below++) {
+            for (int above = 1; above <= below; above++) {
+                EstateOffice x = willed("will 1/1;", 1, 1000, 1, 77, 1, 13, above, below);
+                due("L with " + above + "/" + below + " behind", x.would(0, 5), SPENT);
+                x = parted("fixed w 1/875;fixed s 1/88;fixed d 1/13;fixed h " + above + "/" + below + ";");
+                due("S with " + above + "/" + below + " behind", x.would(1, 50), SPENT);
+            }
+            // M * L is SPENT, and no legacy is: what is left of M is, too.
+            EstateOffice x = gifts();
+            int p = x.person(0, -1, -1, 0);
+            int q = x.person(0, -1, -1, 0);
+            x.wealth(p, 2);
+            x.leaves(p, q, 1, below);
+            x.leaves(p, 0, below - 1, below);
+            die(x, 5, p);
+            x.wealth(0, 0);
+            int r = x.person(0, -1, -1, 0);
+            x.leaves(q, 0, 1, 997);
+            x.leaves(q, r, 1, 991);
+            due("2 / " + below, x.would(q, 5), below <= 2 ? 0 : SPENT);
+        }
+        // Amounts of 1/1001 * 1/1000 and 1/1001 * 999/1000 to who has 1/3 each.
+        EstateOffice x = gifts();
+        int p = having(x, 143, 7);
+        int son = x.person(0, -1, p, 1);
+        int daughter = x.person(1, -1, p, 1);
+        Edges.law(x, "kin s=child m;kin d=child f;rest s 1,d 999;will 1/1;");
+        for (int heir = son; heir <= daughter; heir++) {
+            int q = x.person(0, -1, -1, 0);
+            x.wealth(q, 1);
+            x.leaves(q, heir, 1, 3);
+            x.leaves(q, 0, 2, 3);
+            die(x, 5, q);
+            Edges.due("wealth", Edges.worth(x, heir), 1, 3);
+        }
+        due("more by what is SPENT", x.would(p, 5), SPENT);
     }
 
     // ---- then nothing happens ----
