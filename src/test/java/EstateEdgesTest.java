@@ -19,9 +19,11 @@ public final class EstateEdgesTest {
         spentByAWeight();
         spentByTheSumOfParts();
         spentByTheSumToGiveBack();
+        spentByTheSumByNumbers();
         spentByGivingBack();
         spentByALine();
         spentByLinesInOrder();
+        spentByChildrenInOrder();
         spentByTheSumOfLegacies();
         spentByALessenedLegacy();
         spentByTheBound();
@@ -31,6 +33,8 @@ public final class EstateEdgesTest {
         spentByWhatIsLeft();
         spentByAnAmount();
         spentByWealth();
+        spentByWealthInOrder();
+        spentByEstatesInOrder();
         spentByStrangers();
         spentByTheCrown();
         spentStaysSo();
@@ -417,6 +421,33 @@ public final class EstateEdgesTest {
         due("B of the sons", x.would(0, 50), 0);
     }
 
+    /** Two sons with 1/1028 each and two daughters with 1/1958 each, one of whom, the mate's, is to be given back to. */
+    private static EstateOffice twoSons(boolean matesDaughterFirst) {
+        EstateOffice x = Edges.lawful("kin s=child m;kin d=child f;kin e=mate.child f;"
+            + "fixed s 1/514;fixed d 1/979;back e,s;");
+        x.person(0, -1, -1, 0);
+        int mate = x.person(1, -1, -1, 0);
+        x.mates(0, mate, 1, -1);
+        if (matesDaughterFirst) {
+            x.person(1, mate, 0, 10);
+        }
+        x.person(0, -1, 0, 10);
+        x.person(0, -1, 0, 10);
+        if (!matesDaughterFirst) {
+            x.person(1, mate, 0, 10);
+        }
+        x.person(1, -1, 0, 10);
+        return x;
+    }
+
+    private static void spentByTheSumByNumbers() {
+        EstateOffice x = twoSons(false);
+        due("1/1028 + 1/1028 + 1/1958", x.would(0, 50), 0);
+        Edges.due("parts", Edges.shares(x, 2, 3, 4, 5), 19, 48, 19, 48, 4883, 23496, 1, 1958);
+        x = twoSons(true);
+        due("1/1958 + 1/1028 on the way", x.would(0, 50), SPENT);
+    }
+
     private static void spentByGivingBack() {
         EstateOffice x = parted("fixed w 1/997;fixed s 1/991;back w;");
         due("R * (P / P)", x.would(1, 50), 0);
@@ -463,6 +494,56 @@ public final class EstateEdgesTest {
         Edges.due("all by lines", new long[] {x.got(4, 0), x.got(4, 1), x.why(4)}, 1988, 988027, 5);
         x = threeAncestors(true);
         due("1/991 + 1/1994 on the way", x.would(0, 50), SPENT);
+    }
+
+    /**
+     * The heir of two children of a dead one with 2/991: of the mother's one too, who has 1/1994, alone; of the
+     * other one beside a second heir. Their lines may be longer by one.
+     */
+    private static EstateOffice twoChildren(boolean mothersFirst, boolean firstIsLong) {
+        EstateOffice x = Edges.lawful("kin a=mate f;kin b=mate m;steps a;steps b;fixed a 1/997;fixed b 2/991;");
+        x.person(0, -1, -1, 0);
+        x.person(1, -1, -1, 0);
+        x.person(0, -1, -1, 0);
+        x.person(1, -1, -1, 0);
+        for (int p = 1; p <= 3; p++) {
+            x.mates(0, p, 1, -1);
+        }
+        int first = x.person(0, mothersFirst ? 1 : -1, 2, 10);
+        int second = x.person(1, mothersFirst ? -1 : 1, 2, 10);
+        int father = firstIsLong ? x.person(0, -1, first, 20) : first;
+        x.person(0, second, father, 30);
+        x.person(0, mothersFirst ? second : -1, mothersFirst ? -1 : father, 30);
+        die(x, 40, 1, 2, first, second);
+        if (firstIsLong) {
+            die(x, 40, father);
+        }
+        return x;
+    }
+
+    private static void spentByChildrenInOrder() {
+        for (int i = 0; i < 2; i++) {
+            boolean isLong = i == 1;
+            EstateOffice x = twoChildren(false, isLong);
+            due("1/1994 + 1/1982 + 1/991", x.would(0, 50), 0);
+            int heir = isLong ? 7 : 6;
+            Edges.due("by lines", Edges.shares(x, 3, heir, heir + 1), 1, 1994, 1991, 988027, 1, 1982);
+            x = twoChildren(true, isLong);
+            due("1/1994 + 1/991 on the way", x.would(0, 50), SPENT);
+        }
+        // A dead child's line goes ahead of a living child with a higher number, though that is nearer.
+        EstateOffice x = Edges.lawful("kin a=mate f;kin b=mate m;steps a;steps b;fixed a 1/997;fixed b 2/991;");
+        x.person(0, -1, -1, 0);
+        x.person(1, -1, -1, 0);
+        x.person(0, -1, -1, 0);
+        x.mates(0, 1, 1, -1);
+        x.mates(0, 2, 1, -1);
+        x.person(1, 1, 2, 10);
+        x.person(0, 3, 2, 30);
+        x.person(0, 3, -1, 30);
+        die(x, 40, 1, 2, 3);
+        due("1/1994 + 1/1982, by the line, + 1/991", x.would(0, 50), 0);
+        Edges.due("by lines", Edges.shares(x, 4, 5), 1991, 988027, 994, 988027);
     }
 
     // ---- legacies ----
@@ -601,6 +682,58 @@ public final class EstateEdgesTest {
             due("1/1001 + 1/" + below, x.settle(5), below == 999 ? 1 : SPENT);
             Edges.due("wealth", Edges.worth(x, q), below == 999 ? 2000 : 1, below == 999 ? 999999 : 1001);
         }
+    }
+
+    /** One has 1, and leaves a part of it to its mate, who has 1/1996, and gets a part of the rest. */
+    private static EstateOffice toTheMate(String fixedPart, int above, int below) {
+        EstateOffice x = gifts();
+        int q = having(x, 2, 998);
+        int p = x.person(0, -1, -1, 0);
+        x.wealth(p, 1);
+        x.mates(p, q, 0, -1);
+        x.leaves(p, q, above, below);
+        Edges.law(x, "kin m=mate;fixed m " + fixedPart + ";will 1/1;");
+        x.dies(p);
+        return x;
+    }
+
+    private static void spentByWealthInOrder() {
+        EstateOffice x = toTheMate("4/991", 1, 4);
+        due("1/1996 + 1/4 + 3/991", x.settle(5), 1);
+        Edges.due("wealth", Edges.worth(x, x.count(0) - 2), 125 * 991 + 3 * 499, 499 * 991);
+        x = toTheMate("1/4", 4, 991);
+        due("the legacy first: 1/1996 + 4/991 on the way, then 987/3964", x.settle(5), SPENT);
+        x.wealth(x.count(0) - 2, 0);
+        due("4/991 + 987/3964", x.settle(5), 1);
+    }
+
+    /** Each of four has 1 and leaves this part of it to 0, the rest goes to its child. */
+    private static EstateOffice fourDeaths(int... parts) {
+        EstateOffice x = Edges.lawful("kin c=child;rest c 1;will 1/1;");
+        for (int p = 0; p <= 4; p++) {
+            x.person(0, -1, -1, 0);
+        }
+        for (int p = 1; p <= 4; p++) {
+            x.person(0, -1, p, 1);
+            x.wealth(p, 1);
+            x.leaves(p, 0, parts[2 * p - 2], parts[2 * p - 1]);
+        }
+        return x;
+    }
+
+    private static void spentByEstatesInOrder() {
+        EstateOffice x = fourDeaths(1, 26, 6, 13, 1, 1000, 1, 77);
+        for (int p = 4; p >= 1; p--) {
+            x.dies(p);
+        }
+        due("1/26 + 6/13 + 1/1000 + 1/77, by numbers", x.settle(5), 4);
+        Edges.due("wealth", Edges.worth(x, 0), 39577, 77000);
+        x = fourDeaths(1, 1000, 1, 77, 1, 26, 6, 13);
+        for (int p = 4; p >= 1; p--) {
+            x.dies(p);
+        }
+        due("1/1000 + 1/77 + 1/26 on the way", x.settle(5), SPENT);
+        due("they are listed", x.count(6), 4);
     }
 
     private static void spentByStrangers() {
